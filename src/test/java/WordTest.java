@@ -104,6 +104,9 @@ public final class WordTest {
         due.word("mirrored", braid, -1, 2, -3, -3);
         due.is("mirror() again", braid.mirror(), 4);
         due.word("mirrored twice", braid, 1, -2, 3, 3);
+        BraidKnots full = due.braid(3, 1, 2, -1, -2, 1, 1, 2, 2, -1, 2);
+        due.is("mirror(), full", full.mirror(), 10);
+        due.word("full mirrored", full, -1, -2, 1, 2, -1, -1, -2, -2, 1, -2);
     }
 
     private static void reverse() {
@@ -117,6 +120,9 @@ public final class WordTest {
         BraidKnots odd = due.braid(4, 1, -2, 3, -1, 2);
         due.is("reverse(), five letters", odd.reverse(), 5);
         due.word("five letters reversed", odd, 2, -1, 3, -2, 1);
+        BraidKnots full = due.braid(3, 1, 2, -1, -2, 1, 1, 2, 2, -1, 2);
+        due.is("reverse(), full", full.reverse(), 10);
+        due.word("full reversed", full, 2, -1, 2, 2, 1, 1, -2, -1, 2, 1);
     }
 
     private static void letter() {
