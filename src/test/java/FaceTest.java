@@ -15,9 +15,6 @@ public final class FaceTest {
     private static final Due due = new Due("FaceTest");
 
     public static void main(String[] args) {
-        due.is("BAD_ARG", BraidKnots.BAD_ARG, -1000);
-        due.is("FULL", BraidKnots.FULL, -1001);
-        due.is("NONE", BraidKnots.NONE, -1002);
         due.is("the class is public and final", BraidKnots.class.getModifiers(), Modifier.PUBLIC | Modifier.FINAL);
         due.is("nested classes", BraidKnots.class.getDeclaredClasses().length, 0);
         constructors();
